@@ -725,6 +725,7 @@ public final class SlipSheets {
             int parts = 0;
             while (parts < TAPE_MOST && kind != END && readPart()) {
                 parts++;
+                advance();
             }
             return parts;
         }
@@ -857,15 +858,8 @@ public final class SlipSheets {
 
         // -- PARTS
 
+        /** Reads a PART up to its ; which is still the token that is seen. */
         private boolean readPart() {
-            boolean isRead = readPartUpToEnd();
-            if (isRead) {
-                advance();
-            }
-            return isRead;
-        }
-
-        private boolean readPartUpToEnd() {
             int begin = start;
             if (isWord("sheet")) {
                 return readSheet();
@@ -1515,7 +1509,8 @@ public final class SlipSheets {
                 takeLast(asked, cell, together);
                 return;
             }
-            for (int number = from[cell]; number <= to[cell] && !(once && count > 0); number++) {
+            int last = to[cell];
+            for (int number = from[cell]; number <= last && !(once && count > 0); number++) {
                 asked.put(cell, number);
                 visit(asked, cell + 1, open, together + number * (set >> cell & 1));
             }
