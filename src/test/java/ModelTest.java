@@ -48,6 +48,7 @@ public final class ModelTest {
         }
         for (int seed = from; seed < from + many * 2 && wrong == 0; seed++) {
             new ModelTest(seed, 3).runFews();
+            new ModelTest(seed, 6).runNets();
         }
         for (int status : new int[] {0, 1, 2, 3, 4, 5, 6, 8, 9}) {
             check("STATUS " + status + " came up", statuses[status] > 0);
@@ -125,6 +126,20 @@ public final class ModelTest {
                 for (int mark = 0; mark < model.marks(); mark++) {
                     both("moves", cell, mark);
                 }
+            }
+        }
+    }
+
+    private void runNets() {
+        feedText(landText());
+        both("tray", 0, between(1, 3), 8);
+        for (int i = 0; i < 10; i++) {
+            both("write", 0, below(8), below(20));
+            both("net", 0, below(40));
+            both("netTold", 0);
+            both("netTold", 1);
+            if (below(3) == 0) {
+                both("row", mark(), year(), 0, 0, 0);
             }
         }
     }
@@ -236,10 +251,10 @@ public final class ModelTest {
         int parts = between(6, 30);
         for (int i = 0; i < parts && text.length() < 540; i++) {
             int kind = i == 0 ? 0 : i < 4 ? below(2) : below(12);
-            String name = String.valueOf((char) ('a' + (below(60) == 0 ? below(3) : i % 26)));
-            String one = cells.isEmpty() ? "a 0" : cells.get(below(cells.size()));
-            String other = cells.isEmpty() ? "a 0" : cells.get(below(cells.size()));
-            String mark = marks.isEmpty() ? "a" : marks.get(below(marks.size()));
+            String name = name(below(60) == 0 ? below(3) : i);
+            String one = cells.isEmpty() ? "x 0" : cells.get(below(cells.size()));
+            String other = cells.isEmpty() ? "x 0" : cells.get(below(cells.size()));
+            String mark = marks.isEmpty() ? "x" : marks.get(below(marks.size()));
             String part;
             if (kind == 0 && cells.size() < cellsMost) {
                 int more = between(1, cellsMost - cells.size());
@@ -264,6 +279,12 @@ public final class ModelTest {
             text.append(part.isEmpty() ? "" : part + blank() + ";" + blank());
         }
         return text.substring(0, Math.min(600, text.length()));
+    }
+
+    /** NAMES of all lengths, many of them alike but for one letter. */
+    private static String name(int i) {
+        String[] heads = {"", "a", "ab", "mar", "qqqqqqq"};
+        return heads[i % heads.length] + (char) ('a' + i % 26);
     }
 
     private String blank() {

@@ -301,6 +301,15 @@ public final class PromiseTest {
         r.faultyAt(land + "stuck !b 0 from 1 to 2;", 3);
         r.faultyAt("moves !a 0 b 1;sheet a cells 1 saves 1;", 3);
         r.faultyAt("sheet ab cells 1 saves 1;stuck !a 0 from 1 to 2;", 3);
+        r.faultyAt("mark abc;mark abd;mark bbc;mark !abc;", 3);
+        r.faultyAt("sheet abc cells 1 saves 1;mark abd;moves abc 0 !abe 1;", 3);
+        r.land("mark abcdefgh;mark abcdefgg;sheet bbcdefgh cells 1 saves 1;sheet aacdefgh cells 1 saves 1;moves aacdefgh 0 abcdefgg 4;", 5);
+        r.is("the second MARK, the second SHEET", r.x.moves(1, 1), 4);
+        r.is("not the first ones", r.x.moves(0, 0), 0);
+        r.land("sheet u cells 1 saves 1;mark a;sheet v cells 1 saves 1;mark b;sheet w cells 1 saves 1;mark c;sheet x cells 1 saves 1;"
+            + "mark d;sheet y cells 1 saves 1;mark e;mark f;mark g;sheet z cells 1 saves 1;mark h;moves z 0 h 7;moves u 0 a -7;", 16);
+        r.is("the last CELL and MARK of all", r.x.moves(5, 7), 7);
+        r.is("the first ones", r.x.moves(0, 0), -7);
     }
 
     private static void faultsOfNumbers() {
@@ -763,6 +772,7 @@ public final class PromiseTest {
         r.land("mark a;", 1);
         r.none("no CELLS", x.without(0, 1, 0), 6);
         r.none("no CELLS", x.quarrel(0, 1, 0), 6);
+        eightQuarrel();
         Run s = new Run("26 three that quarrel only together");
         s.land("sheet a cells 2 saves 0;mark p;mark q;mark s;moves a 0 p 1;moves a 1 q 1;moves a 0 s 1;moves a 1 s 1;", 8);
         rows(s, 0, 0, 0, 0, 1, 3);
@@ -771,6 +781,33 @@ public final class PromiseTest {
         s.is("fewest", s.x.quarrel(0, 1, 0), 3);
         s.is("set", s.x.quarrel(0, 1, 1), 7);
         s.is("rivals", s.x.quarrel(0, 1, 2), 1);
+    }
+
+    /** Each MARK shuts out one corner of a cube alone; all that is not of the cube is shut out by some. */
+    private static void eightQuarrel() {
+        Run r = new Run("26 eight that quarrel only together");
+        int[][] units = {{1, 1, 1}, {1, -1, -1}, {-1, 1, -1}, {1, 1, -1}, {-1, -1, 1}, {1, -1, 1}, {-1, 1, 1}, {-1, -1, -1}};
+        int[] most = {2, 0, 0, 1, 0, 1, 1, -1};
+        StringBuilder text = new StringBuilder("sheet a cells 3 saves 0;");
+        for (int mark = 0; mark < 8; mark++) {
+            text.append("mark ").append((char) ('k' + mark)).append(';');
+        }
+        for (int mark = 0; mark < 8; mark++) {
+            for (int cell = 0; cell < 3; cell++) {
+                text.append("moves a " + cell + " " + (char) ('k' + mark) + " " + units[mark][cell] + ";");
+            }
+        }
+        r.land(text.toString(), 33);
+        for (int mark = 0; mark < 8; mark++) {
+            rows(r, mark, 200, 0, 0, 1, most[mark] - 400);
+        }
+        r.is("fewest", r.x.quarrel(0, 1, 0), 8);
+        r.is("set", r.x.quarrel(0, 1, 1), 255);
+        r.is("rivals", r.x.quarrel(0, 1, 2), 1);
+        for (int mark = 0; mark < 8; mark++) {
+            r.is("without " + mark, r.x.without(0, 1, mark), 1);
+        }
+        r.is("slips", r.x.slips(0, 1), 0);
     }
 
     private static void ranks() {
@@ -902,11 +939,18 @@ public final class PromiseTest {
         r.is("purse 9", x.net(0, 9), 3);
         r.is("of equals the least set", x.netTold(0), 13);
         r.is("its cost", x.netTold(1), 9);
+        r.write(1, 2, 6, 5, 1000, 999);
+        r.is("a greater set that costs less", x.net(1, 6), 1);
+        r.is("the set", x.netTold(0), 2);
+        r.is("its cost", x.netTold(1), 5);
+        r.is("RANK goes ahead of cost", x.net(1, 1500), 2);
+        r.is("the set", x.netTold(0), 10);
+        r.is("its cost", x.netTold(1), 1004);
         rows(r, 1, 0, 7, 7);
         r.is("q has a VALUE", x.net(0, 10000), 3);
         r.is("the set", x.netTold(0), 12);
         r.is("its cost", x.netTold(1), 4);
-        r.none("refused", x.net(1, 3), 2);
+        r.none("refused", x.net(2, 3), 2);
         r.is("the one ahead is told", x.netTold(0), 12);
         r.write(0, 1, 0, 0, 0, 0);
         r.is("for nothing", x.net(0, 0), 3);
@@ -964,6 +1008,9 @@ public final class PromiseTest {
         r.is("2000", x.few(2, 2, 2000, 2000), 40);
         r.is("99", x.fewOf(0), 20);
         r.is("1", x.fewOf(1), 20);
+        r.write(2, 0, 50);
+        r.is("the most itself", x.few(2, 1, 1999, 2000), 40);
+        r.none("not beyond the most", x.few(2, 1, 1951, 1999), 6);
         r.write(2, 0, 7, 7, 7, 7, 7, 7, 7, 7);
         r.is("eight alike", x.few(2, 8, 1, 2000), 1);
         r.is("the last one", x.fewOf(7), 1);
