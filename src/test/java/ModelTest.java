@@ -57,7 +57,7 @@ public final class ModelTest {
             check("FAULT " + fault + " came up", faults[fault] > 0);
         }
         for (String name : CALLS) {
-            check(name + " was answered often", answered.get(name) >= many);
+            check(name + " was answered often", answered.getOrDefault(name, 0) >= many);
         }
         if (args.length > 2) {
             System.out.println(answered);
