@@ -534,16 +534,10 @@ public final class PromiseTest {
         r.is("value", x.value(0, 0, 0), 4);
     }
 
-    private static void rows(Run r, int mark, int span, int... yearsAndValues) {
-        for (int i = 0; i < yearsAndValues.length; i += 2) {
-            r.yes("row", r.x.row(mark, yearsAndValues[i], yearsAndValues[i + 1], span, 0));
-        }
-    }
-
     private static void lines() {
         Run r = oneCell("18 line");
         SlipSheets x = r.x;
-        rows(r, 0, 0, 0, 10, 2, 6, 3, 7, 19, -2000);
+        r.rows(0, 0, 0, 10, 2, 6, 3, 7, 19, -2000);
         r.fraction("slope of two", x.line(0, 0, 2, 0), -2, 1);
         r.fraction("rest of two", x.line(0, 0, 2, 1), 0, 1);
         // 0, 2, 3 with 10, 6, 7: means 5/3 and 23/3; xx 14/3, xy -16/3, yy 26/3
@@ -562,7 +556,7 @@ public final class PromiseTest {
         r.none("mark", x.line(2, 0, 2, 0), 1);
         r.none("what", x.line(0, 0, 2, 2), 1);
         r.none("what", x.line(0, 0, 2, -1), 1);
-        rows(r, 1, 0, 0, 5, 1, 5, 2, 5);
+        r.rows(1, 0, 0, 5, 1, 5, 2, 5);
         r.fraction("level", x.line(1, 0, 19, 0), 0, 1);
         r.fraction("level", x.line(1, 0, 19, 1), 0, 1);
         Run s = oneCell("18 the greatest line");
@@ -580,19 +574,19 @@ public final class PromiseTest {
     private static void breaks() {
         Run r = oneCell("19 breaks");
         SlipSheets x = r.x;
-        rows(r, 0, 0, 3, 0, 4, 0, 9, 50);
+        r.rows(0, 0, 3, 0, 4, 0, 9, 50);
         r.none("three VALUES", x.breaks(0), 6);
-        rows(r, 0, 0, 10, 50);
+        r.rows(0, 0, 10, 50);
         r.is("the first YEAR of several that part them so", x.breaks(0), 5);
-        rows(r, 1, 0, 0, 0, 1, 1, 2, 2, 3, 3, 4, 4);
+        r.rows(1, 0, 0, 0, 1, 1, 2, 2, 3, 3, 4, 4);
         r.is("all alike: the first", x.breaks(1), 2);
         r.none("mark", x.breaks(2), 1);
         r.none("mark", x.breaks(-1), 1);
         Run s = oneCell("19 each rounded down");
         // at 2: rests 0 and 1/6 + .., each below 1: rounded down they are as good as none
-        rows(s, 0, 0, 0, 0, 1, 0, 2, 1, 3, 1, 4, 1);
+        s.rows(0, 0, 0, 0, 1, 0, 2, 1, 3, 1, 4, 1);
         s.is("rounded down first", s.x.breaks(0), 2);
-        rows(s, 1, 0, 0, 0, 1, 9, 2, 0, 3, 100, 4, 109, 5, 118);
+        s.rows(1, 0, 0, 0, 1, 9, 2, 0, 3, 100, 4, 109, 5, 118);
         s.is("the best", s.x.breaks(1), 3);
     }
 
@@ -600,10 +594,10 @@ public final class PromiseTest {
         Run r = oneCell("20 slow");
         SlipSheets x = r.x;
         r.none("no VALUES", x.slow(0, 2, 0, 0), 6);
-        rows(r, 0, 0, 1, 0);
+        r.rows(0, 0, 1, 0);
         r.none("one VALUE", x.slow(0, 2, 0, 0), 6);
         // symmetric: the LINE is level at 0
-        rows(r, 0, 4, 1, 0, 3, 5, 4, 5, 6, -5, 7, -5, 8, 4, 9, -8, 10, 4, 11, -5, 12, -5, 14, 5, 15, 5, 17, 0);
+        r.rows(0, 4, 1, 0, 3, 5, 4, 5, 6, -5, 7, -5, 8, 4, 9, -8, 10, 4, 11, -5, 12, -5, 14, 5, 15, 5, 17, 0);
         r.fraction("level", x.line(0, 0, 19, 0), 0, 1);
         int[][] want = {{3, 4, 1}, {6, 7, 0}, {11, 12, 0}, {14, 15, 1}};
         for (int k = 0; k < want.length; k++) {
@@ -621,19 +615,19 @@ public final class PromiseTest {
         r.none("what", x.slow(0, 2, 0, 3), 1);
         r.none("what", x.slow(0, 2, 0, -1), 1);
         Run s = oneCell("20 up to the last YEAR");
-        rows(s, 0, 0, 0, 5, 1, 5, 9, -5, 10, -5, 18, 5, 19, 5);
+        s.rows(0, 0, 0, 5, 1, 5, 9, -5, 10, -5, 18, 5, 19, 5);
         s.is("the last one's end", s.x.slow(0, 2, 2, 1), 19);
         s.is("its begin", s.x.slow(0, 2, 2, 0), 18);
         s.none("ten of them", s.x.slow(0, 10, 0, 0), 6);
         Run t = oneCell("20 so many and more");
-        rows(t, 0, 4, 0, 5, 1, 5, 2, 5, 3, -5, 4, -5, 5, -5, 6, -5, 7, -5, 8, -5, 9, 5, 10, 5, 11, 5);
+        t.rows(0, 4, 0, 5, 1, 5, 2, 5, 3, -5, 4, -5, 5, -5, 6, -5, 7, -5, 8, -5, 9, 5, 10, 5, 11, 5);
         t.is("the third of three", t.x.slow(0, 3, 2, 0), 9);
         t.is("the first of four", t.x.slow(0, 4, 0, 0), 3);
         t.is("as many as there are", t.x.slow(0, 4, 0, 1), 8);
         t.is("of six", t.x.slow(0, 6, 0, 2), 0);
         t.none("of seven", t.x.slow(0, 7, 0, 0), 6);
         t.none("a second of six", t.x.slow(0, 6, 1, 0), 6);
-        rows(t, 0, 5, 4, -5);
+        t.rows(0, 5, 4, -5);
         t.is("one just within its SPAN parts them", t.x.slow(0, 4, 0, 0), 5);
     }
 
@@ -642,7 +636,7 @@ public final class PromiseTest {
         SlipSheets x = r.x;
         r.land("sheet a cells 3 saves 0;mark p;mark q;moves a 0 p 1;moves a 1 p 2;moves a 2 q -3;", 6);
         r.is("no ROWS", x.slips(0, 19), 1000);
-        rows(r, 0, 1, 2, 10, 4, 15);
+        r.rows(0, 1, 2, 10, 4, 15);
         r.is("a VALUE in one YEAR alone asks nothing", x.slips(2, 5), 1000);
         // p moved 3 to 7: (0, 2..3) (1, 1..3) (2, 1..2) (3, 0..2) (4, 0..1) (5, 0..1) (6, 0) (7, 0)
         r.is("slips", x.slips(2, 4), 16 * 10);
@@ -656,12 +650,12 @@ public final class PromiseTest {
         r.is("first 0", x.first(2, 4, 0), 0);
         r.is("first 1", x.first(2, 4, 1), 2);
         r.is("first 2", x.first(2, 4, 2), 0);
-        rows(r, 1, 0, 2, 0, 4, -20);
+        r.rows(1, 0, 2, 0, 4, -20);
         r.is("none for -20 by -3", x.slips(2, 4), 0);
         r.none("ends", x.ends(2, 4, 1, 0), 6);
         r.none("first", x.first(2, 4, 0), 6);
         r.none("odds", x.odds(2, 4, 1, 0), 6);
-        rows(r, 1, 1, 4, -20);
+        r.rows(1, 1, 4, -20);
         r.is("-21 to -19", x.slips(2, 4), 16);
         r.is("first 2", x.first(2, 4, 2), 7);
         r.none("the same YEAR", x.slips(2, 2), 1);
@@ -696,8 +690,8 @@ public final class PromiseTest {
             r.is("slips by " + much, x.slips(0, 1), pairs[much] * 10L);
         }
         r.is("corner", x.corner(0, 1), 0);
-        rows(r, 0, 0, 0, 0, 1, 9);
-        rows(r, 1, 0, 0, 0, 1, 4);
+        r.rows(0, 0, 0, 0, 1, 9);
+        r.rows(1, 0, 0, 0, 1, 4);
         r.yes("smooth", x.smooth(2));
         r.is("slips", x.slips(0, 1), 0);
         r.is("corner by any SMOOTH", x.corner(0, 1), 5);
@@ -707,9 +701,9 @@ public final class PromiseTest {
         r.is("leaves it", x.slips(0, 1), 0);
         r.yes("smooth", x.smooth(5));
         r.is("slips", x.slips(0, 1), 10);
-        rows(r, 1, 0, 1, 10);
+        r.rows(1, 0, 1, 10);
         r.none("none", x.corner(0, 1), 6);
-        rows(r, 1, 0, 1, 0);
+        r.rows(1, 0, 1, 0);
         r.is("corner", x.corner(0, 1), 9);
         r.none("years", x.corner(1, 1), 1);
         r.none("years", x.corner(1, 20), 1);
@@ -725,11 +719,11 @@ public final class PromiseTest {
         r.fraction("odds", x.odds(0, 1, 63, 54), 1, 1000000);
         r.fraction("odds", x.odds(0, 1, 63, 53), 7, 1000000);
         r.is("most", x.ends(0, 1, 63, 1), 54);
-        rows(r, 0, 0, 0, 0, 1, 27);
+        r.rows(0, 0, 0, 0, 1, 27);
         r.is("27 together", x.slips(0, 1), 55252);
         r.is("first", x.first(0, 1, 2), 0);
         r.is("first", x.first(0, 1, 3), 9);
-        rows(r, 0, 200, 0, 0, 1, 0);
+        r.rows(0, 200, 0, 0, 1, 0);
         r.is("a wide SPAN", x.slips(0, 1), 1000000);
     }
 
@@ -738,9 +732,9 @@ public final class PromiseTest {
         SlipSheets x = r.x;
         r.land("sheet a cells 2 saves 0;mark p;mark q;mark s;mark t;moves a 0 p 1;moves a 0 q 1;moves a 1 s 1;moves a 0 t 1;near a 0 a 1;", 10);
         r.none("nothing asked", x.quarrel(0, 1, 0), 6);
-        rows(r, 0, 0, 0, 0, 1, 3);
-        rows(r, 1, 0, 0, 0, 1, 4);
-        rows(r, 2, 0, 0, 0, 1, 4);
+        r.rows(0, 0, 0, 0, 1, 3);
+        r.rows(1, 0, 0, 0, 1, 4);
+        r.rows(2, 0, 0, 0, 1, 4);
         r.is("fewest", x.quarrel(0, 1, 0), 2);
         r.is("set", x.quarrel(0, 1, 1), 3);
         r.is("rivals", x.quarrel(0, 1, 2), 1);
@@ -752,14 +746,14 @@ public final class PromiseTest {
         r.is("fewest", x.quarrel(0, 1, 0), 2);
         r.is("set", x.quarrel(0, 1, 1), 3);
         r.is("rivals: 0 with 1, 0 with 2", x.quarrel(0, 1, 2), 2);
-        rows(r, 3, 0, 0, 0, 1, 5);
+        r.rows(3, 0, 0, 0, 1, 5);
         r.is("rivals: 01, 02, 03, 13, 23", x.quarrel(0, 1, 2), 5);
         r.is("without 0", x.without(0, 1, 0), 0);
-        rows(r, 3, 0, 1, 10);
+        r.rows(3, 0, 1, 10);
         r.is("fewest", x.quarrel(0, 1, 0), 1);
         r.is("set", x.quarrel(0, 1, 1), 8);
         r.is("rivals", x.quarrel(0, 1, 2), 1);
-        rows(r, 1, 0, 1, -1);
+        r.rows(1, 0, 1, -1);
         r.is("set", x.quarrel(0, 1, 1), 2);
         r.is("rivals", x.quarrel(0, 1, 2), 2);
         r.none("other YEARS", x.quarrel(1, 2, 0), 6);
@@ -775,9 +769,9 @@ public final class PromiseTest {
         eightQuarrel();
         Run s = new Run("26 three that quarrel only together");
         s.land("sheet a cells 2 saves 0;mark p;mark q;mark s;moves a 0 p 1;moves a 1 q 1;moves a 0 s 1;moves a 1 s 1;", 8);
-        rows(s, 0, 0, 0, 0, 1, 3);
-        rows(s, 1, 0, 0, 0, 1, 3);
-        rows(s, 2, 0, 0, 0, 1, 7);
+        s.rows(0, 0, 0, 0, 1, 3);
+        s.rows(1, 0, 0, 0, 1, 3);
+        s.rows(2, 0, 0, 0, 1, 7);
         s.is("fewest", s.x.quarrel(0, 1, 0), 3);
         s.is("set", s.x.quarrel(0, 1, 1), 7);
         s.is("rivals", s.x.quarrel(0, 1, 2), 1);
@@ -799,7 +793,7 @@ public final class PromiseTest {
         }
         r.land(text.toString(), 33);
         for (int mark = 0; mark < 8; mark++) {
-            rows(r, mark, 200, 0, 0, 1, most[mark] - 400);
+            r.rows(mark, 200, 0, 0, 1, most[mark] - 400);
         }
         r.is("fewest", r.x.quarrel(0, 1, 0), 8);
         r.is("set", r.x.quarrel(0, 1, 1), 255);
@@ -858,7 +852,7 @@ public final class PromiseTest {
         r.fraction("18", x.odds(0, 1, 3, 18), 1, 100);
         r.fraction("19", x.odds(0, 1, 3, 19), 0, 1);
         r.fraction("one of them", x.odds(0, 1, 2, 5), 1, 2);
-        rows(r, 0, 0, 0, 0, 1, 6);
+        r.rows(0, 0, 0, 0, 1, 6);
         r.fraction("6 apart: 60, 71, 82, 93", x.odds(0, 1, 3, 9), 1, 2);
         r.fraction("of 1", x.odds(0, 1, 2, 3), 1, 4);
         r.fraction("54", x.odds(0, 1, 1, 54), 0, 1);
@@ -946,7 +940,7 @@ public final class PromiseTest {
         r.is("RANK goes ahead of cost", x.net(1, 1500), 2);
         r.is("the set", x.netTold(0), 10);
         r.is("its cost", x.netTold(1), 1004);
-        rows(r, 1, 0, 7, 7);
+        r.rows(1, 0, 7, 7);
         r.is("q has a VALUE", x.net(0, 10000), 3);
         r.is("the set", x.netTold(0), 12);
         r.is("its cost", x.netTold(1), 4);

@@ -3,6 +3,7 @@ import java.nio.charset.StandardCharsets;
 /** One run of calls on a new object: it counts and prints each answer that is not the one that is due. */
 final class Run {
     private static int wrong = 0;
+    private static boolean hushed = false;
 
     final SlipSheets x = new SlipSheets();
     private final String name;
@@ -11,8 +12,18 @@ final class Run {
         this.name = name;
     }
 
+    /** Another run of the same name, on an object of its own. */
+    Run again() {
+        return new Run(name);
+    }
+
     static int wrongAnswers() {
         return wrong;
+    }
+
+    /** Wrong answers are counted alone: where they are looked for, they needn't be printed. */
+    static void hush() {
+        hushed = true;
     }
 
     static void end(String test) {
@@ -25,6 +36,9 @@ final class Run {
     void due(String call, long got, long want) {
         if (got != want) {
             wrong++;
+            if (hushed) {
+                return;
+            }
             System.out.println(name + ": " + call + " answered " + got + ", due is " + want);
         }
     }
@@ -102,5 +116,30 @@ final class Run {
         for (int i = 0; i < numbers.length; i++) {
             yes("write", x.write(tray, i, numbers[i]));
         }
+    }
+
+    /** The whole TRAY: these numbers and none behind them. */
+    void reads(int tray, long... numbers) {
+        for (int i = 0; i < numbers.length; i++) {
+            is("read(" + tray + ", " + i + ")", x.read(tray, i), numbers[i]);
+        }
+        none("read(" + tray + ", " + numbers.length + ")", x.read(tray, numbers.length), 3);
+    }
+
+    /** ROWS of a MARK with one SPAN, all KNOWN on DAY 0. */
+    void rows(int mark, int span, int... yearsAndValues) {
+        for (int i = 0; i + 1 < yearsAndValues.length; i += 2) {
+            yes("row", x.row(mark, yearsAndValues[i], yearsAndValues[i + 1], span, 0));
+        }
+    }
+
+    /** A call by its name, answered with this STATUS; where it is not 0, with NONE or false. */
+    long call(int status, String name, long... a) {
+        long got = Face.call(x, name, a);
+        due("status() behind " + Face.told(name, a), x.status(), status);
+        if (status != 0) {
+            due(Face.told(name, a), got, Face.isYesOrNo(name) ? 0 : SlipSheets.NONE);
+        }
+        return got;
     }
 }
