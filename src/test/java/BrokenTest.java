@@ -111,6 +111,10 @@ public final class BrokenTest {
     }
 
     public static void main(String[] args) throws Exception {
+        if (ToolProvider.getSystemJavaCompiler() == null) {
+            System.out.println("BrokenTest: no compiler to make copies with");
+            return;
+        }
         String code = bare(Files.readString(Path.of("src/main/java/SlipSheets.java"), StandardCharsets.UTF_8));
         List<Book.Sentence> sentences = Book.whole().sentences;
         ExecutorService workers = Executors.newFixedThreadPool(Math.max(1, Math.min(8, Runtime.getRuntime().availableProcessors())), task -> {

@@ -80,6 +80,11 @@ final class FaultWords {
         book.says("2 it can't stand there", r -> {
             r.faultyAt("!cells", 2);
             r.faultyAt("!marks a;", 2);
+            r.faultyAt("!park a;", 2);
+            r.faultyAt("!marc a;", 2);
+            r.faultyAt("!ark a;", 2);
+            r.faultyAt("sheet a !bells 1 saves 1;", 2);
+            r.faultyAt("sheet a cells 1 !saved 1;", 2);
             r.faultyAt("mark a;!b;", 2);
             r.faultyAt("mark !;", 2);
             r.faultyAt("mark a !a;", 2);
@@ -91,6 +96,9 @@ final class FaultWords {
             r.faultyAt(LAND + "moves a 0 c !d;", 2);
             r.faultyAt(LAND + "stuck a 0 from 0 !from 1;", 2);
         }).sees("private boolean readPart", "return fail(2, start);", "return fail(1, start);")
+            .sees("private boolean isWord", "int i = 0;", "int i = 1;")
+            .sees("private boolean isWord", "i < word.length()", "i < word.length() - 1")
+            .sees("private boolean isWord", "stop - start != word.length()", "stop - start < word.length()")
             .sees("private boolean passWord", "return fail(2, start);", "return fail(3, start);")
             .sees("private boolean seesNumber", "return fail(2, start);", "return fail(4, start);")
             .sees("private boolean seesEnd", "fail(2, start)", "fail(2, stop)")
@@ -143,12 +151,14 @@ final class FaultWords {
             r.faultyAt(LAND + "moves a 0 !b 1;", 3);
             r.faultyAt(LAND + "moves a 0 !x 1;", 3);
             r.faultyAt(LAND + "moves a 0 !cc 1;", 3);
+            r.faultyAt("sheet a cells 1 saves 1;moves a 0 !a 1;", 3);
             r.faultyAt("sheet a cells 1 saves 1;moves a 0 !b 1;mark b;", 3);
             r.faultyAt("mark b;moves !a 0 b 1;sheet a cells 1 saves 1;", 3);
             r.faultyAt("stuck !a 0 from 1 to 2;", 3);
         }).sees("private int seeCell", "|| names.cellsOf[sheet] == 0", "")
             .sees("private int seeCell", "fail(3, start);", "fail(2, start);")
             .sees("private boolean readMoves", "|| names.cellsOf[named] > 0", "")
+            .sees("private boolean readMoves", "names.cellsOf[named] > 0", "names.cellsOf[named] > 1")
             .sees("private boolean readMoves", "return fail(3, start);", "return fail(2, start);");
     }
 

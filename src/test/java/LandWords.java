@@ -69,7 +69,18 @@ final class LandWords {
             r.is("none", r.x.land(0), 0);
             r.is("many(1)", r.x.many(1), 0);
             r.due("the tape was empty", r.x.feed(0, 0, 0, 0, 0), 20);
+            r.none("20 bytes that are none", r.x.land(20), 9);
+            cut(r, "mark a;", 3, 2, 0);
+            cut(r, "mark a;", 4, 2, 4);
+            cut(r, "mark abcdefghi;", 13, 2, 13);
+            cut(r, "sheet a cells 1 saves 09999;", 26, 2, 26);
+            cut(r, "mark a;;", 8, 2, 7);
+            r.feed("mark a;;");
+            r.is("one, ahead of a second ;", r.x.land(7), 1);
         }).sees("private int readParts", "size = 0;", "")
+            .sees("kind = WORD;", "stop < end", "stop <= end")
+            .sees("private void scanNumber", "stop < end", "stop <= end")
+            .sees("private void advance", "start >= end", "start > end")
             .sees("private int readParts", "end = n;", "end = Math.max(n, 14);")
             .sees("public int land", "n < 0", "n < 1")
             .sees("public int land", "return answer(parts);", "return answer(ground.marks + 1);");
@@ -91,6 +102,14 @@ final class LandWords {
             .sees("public int land", "n > reader.size", "n >= reader.size")
             .sees("public int land", "n > reader.size", "n > TAPE_MOST")
             .sees("public int land", "return refuse(FAULTY);", "ground = reader.trade(ground); return refuse(FAULTY);");
+    }
+
+    /** Of a text on the tape the first bytes alone, with this FAULT. */
+    private static void cut(Run r, String text, int n, int fault, int place) {
+        r.feed(text);
+        r.none("land(" + n + ") of '" + text + "'", r.x.land(n), 9);
+        r.due("its FAULT", r.x.fault(0), fault);
+        r.due("its place", r.x.fault(1), place);
     }
 
     private static void told(Book book) {
@@ -476,6 +495,7 @@ final class LandWords {
                     r.again().faultyAt(place.replace("#", word), 2);
                 }
                 r.land("mark " + word + "a;mark a" + word + ";mark " + word.substring(1) + ";", 3);
+                r.land("mark x" + word.substring(1) + ";mark " + word.substring(0, word.length() - 1) + "x;", 2);
             }
         });
         for (String word : RESERVED) {
@@ -521,7 +541,12 @@ final class LandWords {
                 r.is("MARK " + mark, r.x.moves(0, mark), mark + 1);
             }
             r.faultyAt(text + "mark !z;", 6);
+            r.land("sheet u cells 1 saves 1;mark a;sheet v cells 1 saves 1;mark b;sheet w cells 1 saves 1;mark c;sheet x cells 1 saves 1;mark d;"
+                + "sheet y cells 1 saves 1;mark e;mark f;mark g;sheet z cells 1 saves 1;mark h;moves z 0 h 7;moves u 0 a -7;", 16);
+            r.is("the last of fourteen NAMES", r.x.moves(5, 7), 7);
+            r.is("the first", r.x.moves(0, 0), -7);
         }).sees("class SlipSheets", "MARKS_MOST = 8", "MARKS_MOST = 7")
+            .sees("class Names", "private void clear() { size = 0;", "private void clear() { size = 1;")
             .sees("class SlipSheets", "MARKS_MOST = 8", "MARKS_MOST = 9")
             .sees("private boolean readMark", "names.add(nameStart, nameStop, draft.marks, 0)", "names.add(nameStart, nameStop, names.size, 0)");
 
@@ -597,7 +622,17 @@ final class LandWords {
             r.is("no CELLS", r.x.land(0), 0);
             r.is("no CELLS", r.x.many(0), 0);
             r.is("no MARKS", r.x.many(1), 0);
-        }).sees("private static final class Land {", "Arrays.fill(units, 0);", "")
+            for (int unit = -1; unit <= 1; unit += 2) {
+                r.land("sheet a cells 2 saves 0;mark b;moves a 0 b " + unit + ";moves a 1 b " + 9 * unit + ";", 4);
+                r.rows(0, 0, 0, 0, 1, 3 * unit);
+                r.is("3 by two CELLS", r.x.slips(0, 1), 1);
+                r.land("sheet a cells 1 saves 0;mark b;moves a 0 b " + unit + ";", 3);
+                r.rows(0, 0, 0, 0, 1, 3 * unit);
+                r.is("3 by one CELL", r.x.slips(0, 1), 1);
+            }
+        }).sees("private void boundRests", "Arrays.fill(restLeast, 0);", "")
+            .sees("private void boundRests", "Arrays.fill(restMost, 0);", "")
+            .sees("private static final class Land {", "Arrays.fill(units, 0);", "")
             .sees("private static final class Land {", "Arrays.fill(near, 0);", "")
             .sees("private static final class Land {", "Arrays.fill(stuckLeast, 100);", "")
             .sees("private static final class Land {", "cells = 0;", "")

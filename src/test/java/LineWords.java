@@ -211,12 +211,17 @@ final class LineWords {
             s.rows(0, 4, 2, -5, 3, -5);
             s.is("just as far as the SPAN is not further", s.x.slow(0, 2, 0, 0), 2);
             s.is("to 3", s.x.slow(0, 2, 0, 1), 3);
+            // the LINE is at -260/49, 10/49, 280/49, 4870/49
+            s.rows(1, 0, 0, 0, 1, 0, 2, 0, 19, 100);
+            s.is("the last YEAR tilts it", s.x.slow(1, 2, 0, 0), 1);
+            s.is("to 2", s.x.slow(1, 2, 0, 1), 2);
         }).sees("private int sideOf", "above > span", "above >= span")
             .sees("private int sideOf", "above < -span", "above <= -span")
             .sees("private int sideOf", "line.scaled(spans[year])", "line.scaled(spans[year] + 1)")
             .sees("private int sideOf", "return above < -span ? -1 : 0;", "return 0;")
             .sees("private static int toldOfSlow", "return side > 0 ? 1 : 0;", "return side > 0 ? 0 : 1;")
-            .sees("private int slowSlip", "fit(line, 0, YEARS - 1);", "fit(line, 0, 4);");
+            .sees("private int slowSlip", "fit(line, 0, YEARS - 1);", "fit(line, 0, 4);")
+            .sees("private int slowSlip", "fit(line, 0, YEARS - 1);", "fit(line, 0, YEARS - 2);");
     }
 
     private static void slows(Book book) {

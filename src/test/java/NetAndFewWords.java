@@ -293,7 +293,11 @@ final class NetAndFewWords {
             r.write(0, 0, 9, 1, 6, 5);
             few(r, 0, 4, 10, 10, 2, 0, 0, 0, 2);
             few(r, 0, 3, 10, 10, 2, 1, 1, 0);
+            r.write(0, 0, 5, 2, 3);
+            few(r, 0, 3, 8, 8, 2, 1, 0, 1);
+            few(r, 0, 3, 15, 15, 3, 3, 0, 0);
         }).sees("private void share", "countFewest(i + 1, many, sum);", "countFewest(i, many, sum);")
+            .sees("private void share", "left -= time;", "left += time;")
             .sees("private void share", "int time = 0; while (time < left && sum >= units[i] && fewest[sum] != left - time) { sum -= units[i]; time++; }",
                 "int time = 0; int at = -1; int rest = sum; for (int n = 0; n <= left && rest >= 0; n++, rest -= units[i]) { if (fewest[rest] == left - n) { at = n; } } time = Math.max(at, 0); sum -= time * units[i];");
     }

@@ -218,9 +218,16 @@ final class QuarrelWords {
             }
             r.is("six at most", r.x.rank(255, 0), 6);
             r.is("two of two CELLS and of three", r.x.rank(192, 0), 2);
-            great(r.again());
+            allSets(r, new int[][] {{9, 9, 9, 9, 9, 8}, {9, -9, 9, -9, 8, 9}, {9, 9, -9, -8, 9, 9}, {9, -9, -8, 9, -9, 9}, {9, 8, 9, 9, -9, -9}, {8, 9, -9, 9, 9, -9}});
+            allSets(r, new int[][] {{9, 9, 9, 9, 9, 8}, {9, -9, 9, -9, 8, 9}, {9, 9, -9, -8, 9, 9}, {9, -9, -8, 9, -9, 9}, {9, 0, 9, 0, 9, 8}, {0, 9, 0, 9, 0, 0}});
+            // of eights alone, which wrap around to 0 soonest
+            allSets(r, new int[][] {{8, 8, 8, 8, 8, 8}, {8, -8, 8, -8, 8, 8}, {8, 8, -8, -8, 8, 8}, {8, -8, -8, 8, -8, 8}, {8, 8, 8, 8, -8, -8}, {8, 8, -8, 8, 8, -8}});
+            // three of which the others are the sums of two, or one less another
+            allSets(r, new int[][] {{3, 1, -2, 4, 0, 5}, {1, -4, 3, 0, 2, -1}, {2, 2, -1, -3, 4, 1}, {4, -3, 1, 4, 2, 4}, {3, -2, 2, -3, 6, 0}, {1, -1, -1, 7, -4, 4}});
         }).sees("private void eliminate", "- table[pivotRow * CELLS_MOST + k] * head", "")
             .sees("private int rowWithout0", "!= 0", "> 0")
+            .sees("private int of", "before = table[rank * CELLS_MOST + column];", "")
+            .sees("private int of", "before = table[rank * CELLS_MOST + column];", "before = table[rank + CELLS_MOST + column];")
             .sees("private int of", "column < CELLS_MOST && rank < rows", "column < CELLS_MOST - 1 && rank < rows")
             .sees("private int of", "if (pivotRow < 0) { continue; }", "if (pivotRow < 0) { break; }")
             .sees("private int fill", "cell == cellLeftOut ? 0 : land.unit(cell, mark)", "cell == cellLeftOut ? 0 : Math.min(1, land.unit(cell, mark))");
@@ -230,18 +237,49 @@ final class QuarrelWords {
         return "mark k;mark l;mark m;mark n;mark o;mark p;mark q;mark r;";
     }
 
-    /** Six MARKS of great minors, then the last made a sum of others: RANK 6, then 5. */
-    private static void great(Run r) {
-        int[][] units = {{9, 9, 9, 9, 9, 8}, {9, -9, 9, -9, 8, 9}, {9, 9, -9, -8, 9, 9}, {9, -9, -8, 9, -9, 9}, {9, 8, 9, 9, -9, -9}, {8, 9, -9, 9, 9, -9}};
-        r.land(greatLand(units), 43);
-        r.is("of six", r.x.rank(63, 0), 6);
-        units[5] = new int[] {0, 9, 0, 9, 0, 0};
-        units[4] = new int[] {9, 0, 9, 0, 9, 8};
-        r.land(greatLand(units), 43);
-        r.is("the first is the sum of the last two", r.x.rank(63, 0), 5);
+    /** All sets of six MARKS in six CELLS. */
+    private static void allSets(Run r, int[][] units) {
+        Run s = r.again();
+        s.land(sixBySix(units), 43);
+        for (int set = 0; set < 64; set++) {
+            s.is("rank of " + set, s.x.rank(set, 0), rankByPrime(units, set));
+        }
     }
 
-    private static String greatLand(int[][] units) {
+    /** RANK as by a prime that is greater than six numbers of -9 to 9 each can make a minor: none of them is 0 by it alone. */
+    private static int rankByPrime(int[][] units, int set) {
+        long prime = 2147483647;
+        long[][] rows = new long[Integer.bitCount(set)][6];
+        for (int mark = 0, row = 0; mark < 6; mark++) {
+            for (int cell = 0; cell < 6 && (set >> mark & 1) != 0; cell++) {
+                rows[row][cell] = Math.floorMod(units[mark][cell], prime);
+            }
+            row += set >> mark & 1;
+        }
+        int rank = 0;
+        for (int cell = 0; cell < 6; cell++) {
+            int pivot = rank;
+            while (pivot < rows.length && rows[pivot][cell] == 0) {
+                pivot++;
+            }
+            if (pivot == rows.length) {
+                continue;
+            }
+            long[] found = rows[pivot];
+            rows[pivot] = rows[rank];
+            rows[rank] = found;
+            for (int row = rank + 1; row < rows.length; row++) {
+                long head = rows[row][cell];
+                for (int k = 0; k < 6; k++) {
+                    rows[row][k] = Math.floorMod(rows[row][k] * found[cell] % prime - found[k] * head % prime, prime);
+                }
+            }
+            rank++;
+        }
+        return rank;
+    }
+
+    private static String sixBySix(int[][] units) {
         StringBuilder text = new StringBuilder("sheet a cells6saves0;");
         for (int mark = 0; mark < 6; mark++) {
             text.append("mark ").append((char) ('k' + mark)).append(';');

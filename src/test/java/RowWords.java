@@ -160,6 +160,10 @@ final class RowWords {
             r.call(0, "offset", 0, 19, -2000);
             r.is("too small again", r.x.value(0, 19, 0), 1);
             r.call(0, "offset", 1, 0, 0);
+            r.is("by nothing", r.x.value(1, 19, 0), 1);
+            r.call(0, "offset", 1, 19, 6);
+            r.is("of the other MARK", r.x.value(1, 19, 0), -5);
+            r.is("of that alone", r.x.value(0, 19, 0), 1);
             for (int much : new int[] {LEAST_INT, -2001, 2001, MOST_INT}) {
                 r.call(1, "offset", 0, 0, much);
             }
@@ -169,6 +173,7 @@ final class RowWords {
             .sees("public boolean offset", "!isWithin(much, -VALUE_MOST, VALUE_MOST)", "!isWithin(much, -VALUE_MOST, VALUE_MOST - 1)")
             .sees("public boolean offset", "!isWithin(much, -VALUE_MOST, VALUE_MOST)", "!isWithin(much, 1 - VALUE_MOST, VALUE_MOST)")
             .sees("private void gather", "&& offsetMark[i] == mark", "")
+            .sees("private void addOffset", "offsetMark[offsets] = mark;", "")
             .sees("private void gather", "-= offsetMuch[i]", "+= offsetMuch[i]");
     }
 

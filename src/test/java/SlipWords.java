@@ -390,6 +390,15 @@ final class SlipWords {
             r.fraction("CELL 0 at least 4", r.x.odds(0, 1, 1, 4), 1, 1);
             r.fraction("CELL 0 at least 5", r.x.odds(0, 1, 1, 5), 0, 1);
             r.fraction("CELLS 0 and 1 at least 9", r.x.odds(0, 1, 3, 9), 1, 2);
+            Run s = r.again();
+            s.land(PAIR, 6);
+            s.call(0, "smooth", 2);
+            // of 44 pairs: 9 stands with 7 to 9, 8 with 6 to 9
+            s.fraction("the first of a pair at least 9", s.x.odds(0, 1, 1, 9), 3, 44);
+            s.fraction("the first of a pair at least 8", s.x.odds(0, 1, 1, 8), 7, 44);
+            s.fraction("both at least 18", s.x.odds(0, 1, 3, 18), 1, 44);
+            s.fraction("both at least 17", s.x.odds(0, 1, 3, 17), 3, 44);
+            s.fraction("both at least 19", s.x.odds(0, 1, 3, 19), 0, 1);
             for (int least : new int[] {LEAST_INT, -1, 55, MOST_INT}) {
                 r.call(1, "odds", 0, 1, 1, least);
             }
@@ -399,7 +408,9 @@ final class SlipWords {
             .sees("public int odds", "isWithin(least, 0, TOGETHER_MOST)", "isWithin(least, 0, TOGETHER_MOST + 1)")
             .sees("public int odds", "tell(walk.reached, walk.count)", "tell(walk.count - walk.reached, walk.count)")
             .sees("private void takeAnyFrom", "waysToReach(inSet, need - together)", "waysToReach(inSet, need - together + 1)")
-            .sees("private void takeAnyFrom", "* waysToReach(outside, 0)", "");
+            .sees("private void takeAnyFrom", "* waysToReach(outside, 0)", "")
+            .sees("private void takeLast", "together >= need", "together > need")
+            .sees("private void takeLast", "reached += Math.max(0,", "reached += Math.max(1,");
 
         book.says("`int odds(int from, int to, int cells, int least)`: The FRACTION is ODDS (1: also an empty set of CELLS; 6: no SLIPS).", r -> {
             r.call(1, "odds", 0, 1, 1, 0);

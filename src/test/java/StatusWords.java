@@ -127,7 +127,7 @@ final class StatusWords {
             .sees("class Land", "private int marks;", "private int marks = 1;")
             .sees("public int land", "if (faultKind != 0) {", "if (faultKind != 0) { ground = reader.trade(ground);");
 
-        book.says("The constants: `NONE = -1`: None.", r -> r.due("NONE", r.again().x.status() + SlipSheets.class.getFields().length * noneOf(), -1))
+        book.says("The constants: `NONE = -1`: None.", r -> r.due("NONE", noneOf(), -1))
             .sees("class SlipSheets", "NONE = -1", "NONE = -2");
     }
 
